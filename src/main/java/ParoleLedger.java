@@ -7,6 +7,13 @@ public final class ParoleLedger {
 
     private static final int OFFICERS = 12, SIDE = 6, RANKS = 6, GENERAL = 5;
     private static final int HELD = 0, WALKS = 1, AT_HOME = 2, FREE = 3, BROKEN = 4;
+
+    /** Sets of what an officer is, a bit for each. */
+    private static final int OPEN = 1 << HELD | 1 << WALKS | 1 << AT_HOME, ON_WORD = 1 << WALKS | 1 << AT_HOME;
+
+    /** All of a side, as bits of officers. */
+    private static final int OURS = 0x3F, THEIRS = 0xFC0;
+
     private static final int MOST_TRUST = 9, FIRST_TRUST = 5, MOST_RATE = 99;
     private static final int SIGNS = 60, FIRST_SIGN = 33, LAST_SIGN = 126;
     private static final int SIGHTS = 8, IMAGES = 2, OWED_BASE = 1000;
@@ -136,7 +143,11 @@ public final class ParoleLedger {
         if (refusal != CAN_BE) {
             return refusal;
         }
-        return what == 0 ? months.books.trust : months.books.openWorth(what - 1);
+        if (what == 0) {
+            return months.books.trust;
+        }
+        int side = what == 1 ? OURS : THEIRS;
+        return Math.abs(months.books.lead(months.books.crowdIn(OPEN) & side));
     }
 
     public int done() {
@@ -150,7 +161,7 @@ public final class ParoleLedger {
     }
 
     public int owed() {
-        return now.openWorth(0) - now.openWorth(1) + OWED_BASE;
+        return now.lead(now.crowdIn(OPEN)) + OWED_BASE;
     }
 
     // ---- 3 exchanges
@@ -170,7 +181,7 @@ public final class ParoleLedger {
         if (!isWithin(what, 0, 2)) {
             return OUTSIDE;
         }
-        if (!now.isOpen(officer)) {
+        if ((now.crowdIn(OPEN) >> officer & 1) == 0) {
             return STATE;
         }
         exchanges.findForOne(now, officer);
@@ -182,7 +193,7 @@ public final class ParoleLedger {
     }
 
     public int even() {
-        return bothSidesOpen() && now.openWorth(0) == now.openWorth(1) ? 1 : 0;
+        return bothSidesOpen() && now.lead(now.crowdIn(OPEN)) == 0 ? 1 : 0;
     }
 
     public int fair(int rank) {
@@ -240,7 +251,7 @@ public final class ParoleLedger {
         if (!isWithin(t, 0, BASIS) || !isWithin(k, -1, MOST_TRUST) || !isWithin(part, 0, 1)) {
             return GONE + OUTSIDE;
         }
-        breaks.spread(now.onWord(0) + now.onWord(1), t);
+        breaks.spread(Integer.bitCount(now.crowdIn(ON_WORD)), t);
         long upper = k < 0 ? breaks.trustSum(now.trust) : breaks.waysToKeep(now.trust, k);
         return breaks.lowestTerms(upper, part);
     }
@@ -250,7 +261,7 @@ public final class ParoleLedger {
                 || !isWithin(what, 0, 2)) {
             return OUTSIDE;
         }
-        resting.count(now.onWord(side), g, c);
+        resting.count(Integer.bitCount(now.lotIn(ON_WORD, side)), g, c);
         if (what == 0) {
             return resting.sets;
         }
@@ -324,7 +335,7 @@ public final class ParoleLedger {
     }
 
     private boolean bothSidesOpen() {
-        return now.openLot(0) != 0 && now.openLot(1) != 0;
+        return now.lotIn(OPEN, 0) != 0 && now.lotIn(OPEN, 1) != 0;
     }
 
     private static boolean isWithin(int number, int least, int most) {
@@ -363,7 +374,7 @@ public final class ParoleLedger {
         }
 
         boolean isThere(int officer) {
-            return isWithin(officer, 0, OFFICERS - 1) && (present >> officer & 1) == 1;
+            return officer >= 0 && officer < OFFICERS && (present >> officer & 1) == 1;
         }
 
         /** Whether a lot of a side is not empty and all in it are there. */
@@ -372,48 +383,24 @@ public final class ParoleLedger {
             return lot != 0 && (lot & ~sidePresent) == 0;
         }
 
-        boolean isOpen(int officer) {
-            return isThere(officer) && states[officer] != FREE && states[officer] != BROKEN;
-        }
-
-        boolean isOnWord(int officer) {
-            return isThere(officer) && (states[officer] == WALKS || states[officer] == AT_HOME);
-        }
-
-        /** Those of a side who are open, bits 0 to 5. */
-        int openLot(int side) {
-            int lot = 0;
-            for (int i = 0; i < SIDE; i++) {
-                if (isOpen(side * SIDE + i)) {
-                    lot |= 1 << i;
+        /** Those who are there and in one of these states, as bits of officers. */
+        int crowdIn(int stateSet) {
+            int crowd = 0;
+            for (int officer = 0; officer < OFFICERS; officer++) {
+                if ((present >> officer & 1) == 1 && (stateSet >> states[officer] & 1) == 1) {
+                    crowd |= 1 << officer;
                 }
             }
-            return lot;
+            return crowd;
         }
 
-        /** How many of a side walk or are at home. */
-        int onWord(int side) {
-            int number = 0;
-            for (int i = 0; i < SIDE; i++) {
-                if (isOnWord(side * SIDE + i)) {
-                    number++;
-                }
-            }
-            return number;
+        /** Those of a side who are in one of these states, bits 0 to 5. */
+        int lotIn(int stateSet, int side) {
+            return crowdIn(stateSet) >> side * SIDE & LOTS - 1;
         }
 
         int worth(int officer) {
             return rates[ranks[officer]];
-        }
-
-        int openWorth(int side) {
-            int sum = 0;
-            for (int i = 0; i < SIDE; i++) {
-                if (isOpen(side * SIDE + i)) {
-                    sum += worth(side * SIDE + i);
-                }
-            }
-            return sum;
         }
 
         /** By how much ours in a crowd are worth more than theirs; who is not there counts nothing. */
@@ -429,10 +416,11 @@ public final class ParoleLedger {
 
         /** The least rate of a rank by which all who are open are even. */
         int evenRate(int rank) {
+            int open = crowdIn(OPEN);
             int others = 0;
             int number = 0;
             for (int officer = 0; officer < OFFICERS; officer++) {
-                if (isOpen(officer)) {
+                if ((open >> officer & 1) == 1) {
                     int sign = officer < SIDE ? 1 : -1;
                     number += ranks[officer] == rank ? sign : 0;
                     others += ranks[officer] == rank ? 0 : sign * worth(officer);
@@ -457,7 +445,7 @@ public final class ParoleLedger {
             if (!isThere(officer)) {
                 return NOT_THERE;
             }
-            if (!suits(officer, deed)) {
+            if ((statesFor(deed) >> states[officer] & 1) == 0) {
                 return WRONG_STATE;
             }
             if (deed == RISES && ranks[officer] >= GENERAL) {
@@ -466,14 +454,17 @@ public final class ParoleLedger {
             return deed == SWEARS && trust == 0 ? NO_TRUST : CAN_BE;
         }
 
-        private boolean suits(int officer, int deed) {
-            if (deed == SWEARS) {
-                return states[officer] == HELD;
+        private static int statesFor(int deed) {
+            switch (deed) {
+                case SWEARS:
+                    return 1 << HELD;
+                case GOES_HOME:
+                    return 1 << WALKS;
+                case BREAKS:
+                    return ON_WORD;
+                default:
+                    return OPEN;
             }
-            if (deed == GOES_HOME) {
-                return states[officer] == WALKS;
-            }
-            return deed == BREAKS ? isOnWord(officer) : isOpen(officer);
         }
 
         /** The least reason why a crowd of both sides can not be exchanged. */
@@ -484,7 +475,7 @@ public final class ParoleLedger {
             if (toldTwice) {
                 return TWICE;
             }
-            if ((crowd & ~(openLot(0) | openLot(1) << SIDE)) != 0) {
+            if ((crowd & ~crowdIn(OPEN)) != 0) {
                 return WRONG_STATE;
             }
             if (trust == 0) {
@@ -736,8 +727,8 @@ public final class ParoleLedger {
         }
 
         private void weighLots(Books books) {
-            openOurs = books.openLot(0);
-            openTheirs = books.openLot(1);
+            openOurs = books.lotIn(OPEN, 0);
+            openTheirs = books.lotIn(OPEN, 1);
             sumLots(books, 0, oursWorth);
             sumLots(books, 1, theirsWorth);
         }
