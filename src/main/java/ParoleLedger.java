@@ -494,7 +494,7 @@ public final class ParoleLedger {
                 states[officer] = BROKEN;
                 trust = Math.max(0, trust - 1);
             } else {
-                ranks[officer]++;
+                ranks[officer] = Math.min(GENERAL, ranks[officer] + 1);
             }
         }
 
