@@ -664,6 +664,9 @@ public final class ParoleLedger {
             0x5555555555555555L, 0x3333333333333333L, 0x0F0F0F0F0F0F0F0FL,
             0x00FF00FF00FF00FFL, 0x0000FFFF0000FFFFL, 0x00000000FFFFFFFFL};
 
+        /** More than any order of an exchange. */
+        private static final int NOT_FOUND = 1 << 20;
+
         int bestOurs;
         int bestTheirs;
         private int openOurs;
@@ -697,19 +700,19 @@ public final class ParoleLedger {
 
         private void find(Books books, int wanted, boolean mostOurs) {
             weighLots(books);
-            int best = Integer.MAX_VALUE;
+            int best = NOT_FOUND;
             for (int ours = 1; ours < LOTS; ours++) {
                 if ((ours & ~openOurs) == 0 && (ours & wanted) == wanted) {
                     best = Math.min(best, bestWith(ours, mostOurs));
                 }
             }
-            boolean found = best != Integer.MAX_VALUE;
+            boolean found = best != NOT_FOUND;
             bestOurs = found ? best / LOTS % LOTS : 0;
             bestTheirs = found ? best % LOTS : 0;
         }
 
         private int bestWith(int ours, boolean mostOurs) {
-            int best = Integer.MAX_VALUE;
+            int best = NOT_FOUND;
             for (int theirs = 1; theirs < LOTS; theirs++) {
                 if ((theirs & ~openTheirs) == 0 && theirsWorth[theirs] == oursWorth[ours]) {
                     best = Math.min(best, order(ours, theirs, mostOurs));
