@@ -117,6 +117,11 @@ final class ExchangeEdges {
                     Edges.rated(Edges.with("0123", "0123"), 1, 2, 3, 6).lots(), 4);
             Edges.due("lots(): 60 for thrice 20, 8 for 8", Edges.with("53", "4443").lots(), 2);
             Edges.due("lots(): none", Edges.with("0", "1").lots(), 0);
+            Edges.due("lots(): both for single ones, not for c", Edges.with("22", "223").lots(), 2);
+            Edges.due("lots(): A is left over", Edges.with("52", "2").lots(), 1);
+            Edges.due("lots(): B is left over", Edges.with("25", "2").lots(), 1);
+            Edges.due("lots(): a is left over", Edges.with("2", "52").lots(), 1);
+            Edges.due("lots(): b is left over", Edges.with("2", "25").lots(), 1);
         });
         Edges.sentence(TERMS, "EVEN: whether all OPEN ours and theirs can be exchanged in one.", () -> {
             Edges.due("even()", Edges.with("5", "444").even(), 1);

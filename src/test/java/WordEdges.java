@@ -157,8 +157,10 @@ final class WordEdges {
             Edges.due("forget() again", x.forget(), 0);
             Edges.due("told(3)", x.told(3), 0);
             Edges.due("forged(0)", x.forged(0), 11);
-            Edges.due("seen(1, 1, false)", x.seen(1, 1, false), 1);
-            Edges.due("forged(0): none of the old ones", x.forged(0), 10);
+            for (int n = 1; n <= 8; n++) {
+                Edges.due("seen(1, 1, false)", x.seen(1, 1, false), n);
+                Edges.due("forged(0): none of the old ones", x.forged(0), 10);
+            }
         });
         Edges.sentence("Promise 21", "FORGED: how many (what = 0), OFFICERS (1).", () -> {
             Edges.due("forged(0) of nobody there", new ParoleLedger().forged(0), 1);

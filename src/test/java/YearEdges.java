@@ -147,6 +147,12 @@ final class YearEdges {
             year(y, seedOf(11, EXCHANGED, other), 1, 1, 0, 6);
             year(y, seedOf(11, EXCHANGED, (other + 1) % 6), 1, 0, 0, 5);
         }
+        for (int officer = 0; officer < 12; officer++) {
+            ParoleLedger each = Edges.with("222222", "222222");
+            year(each, seedOf(officer, EXCHANGED, 3), 1, 1, 0, 6);
+            each.leave(officer < 6 ? 9 : 3);
+            year(each, seedOf(officer, EXCHANGED, 3), 1, 0, 0, 5);
+        }
         int seed = seedOf(0, EXCHANGED, 0);
         ParoleLedger z = Edges.with("2", "3");
         year(z, seed, 1, 0, 0, 5);
@@ -163,7 +169,24 @@ final class YearEdges {
         }
     }
 
+    /** The first seed by which two officers, one behind the other, draw this. */
+    private static int seedOfPair(int kind) {
+        for (int seed = 0; seed < 10000; seed++) {
+            long x = next(seed);
+            long y = next(x);
+            if (x % 12 != y % 12 && isDraw(x, (int) (x % 12), kind, -1) && isDraw(y, (int) (y % 12), kind, -1)) {
+                return seed;
+            }
+        }
+        throw new IllegalStateException("no such seed");
+    }
+
     private static void counted() {
+        ParoleLedger sworn = Edges.act(all(2), "AsBsCsDsEsFsasbscsdsesfs");
+        year(sworn, seedOfPair(BREAKS), 2, 0, 2, 3);
+        sworn.trust(1);
+        year(sworn, seedOfPair(BREAKS), 2, 0, 2, 0);
+        year(sworn, seedOfPair(RISES), 2, 0, 0, 1);
         ParoleLedger x = Edges.act(all(2), "AsAb(B:b)DsEs");
         x.trust(1);
         year(x, seedOf(3, BREAKS, -1), 1, 0, 1, 0);
