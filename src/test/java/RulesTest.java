@@ -11,6 +11,8 @@ import java.lang.reflect.Modifier;
 import java.nio.file.Files;
 import java.nio.file.Path;
 import java.util.*;
+import java.util.regex.Matcher;
+import java.util.regex.Pattern;
 import javax.lang.model.element.Element;
 import javax.lang.model.element.ElementKind;
 import javax.lang.model.element.ExecutableElement;
@@ -49,6 +51,7 @@ public final class RulesTest {
 
     public static void main(String[] args) throws Exception {
         checkFace();
+        checkDocument();
         checkSource();
         checkRoom();
         System.out.println("the rules: " + wrong + " wrong");
@@ -96,15 +99,43 @@ public final class RulesTest {
                 "one public constructor");
     }
 
-    /** The source lies below a folder above the one that the test runs in, or in it. */
-    private static Path source() {
-        for (Path p = Path.of("").toAbsolutePath(); p != null; p = p.getParent()) {
-            Path file = p.resolve("src/main/java/ParoleLedger.java");
-            if (Files.exists(file)) {
-                return file;
+    /** The face of the document itself, where it lies beside the project, is the one that is tested for. */
+    private static void checkDocument() throws Exception {
+        Path file = above("shared/DOC.md");
+        if (file == null) {
+            System.out.println("no document beside the project: its face is not compared");
+            return;
+        }
+        String text = Files.readString(file);
+        Set<String> calls = new HashSet<>();
+        Matcher m = Pattern.compile("public (int|long) (\\w+)\\(([^)]*)\\);").matcher(text);
+        while (m.find()) {
+            String types = m.group(3).replaceAll(" \\w+(,|$)", "$1").replace(" ", "");
+            calls.add(m.group(1) + " " + m.group(2) + "(" + types + ")");
+        }
+        check(calls.equals(FACE), "the document's calls are " + calls);
+        Set<String> constants = new HashSet<>();
+        m = Pattern.compile("public static final (?:int|long) ([^;]*);").matcher(text);
+        while (m.find()) {
+            for (String constant : m.group(1).split(", ")) {
+                constants.add(constant.replaceAll(" =.*", ""));
             }
         }
-        throw new IllegalStateException("no source");
+        check(constants.equals(CONSTANTS), "the document's constants are " + constants);
+    }
+
+    private static Path source() {
+        return above("src/main/java/ParoleLedger.java");
+    }
+
+    /** A file in the folder that the test runs in, or in one above it; null: there is none. */
+    private static Path above(String name) {
+        for (Path p = Path.of("").toAbsolutePath(); p != null; p = p.getParent()) {
+            if (Files.exists(p.resolve(name))) {
+                return p.resolve(name);
+            }
+        }
+        return null;
     }
 
     private static void checkSource() throws Exception {
